@@ -141,6 +141,7 @@ public final class PromisesTest {
         Due.is("6: full(0)", x.full(0), 0);
         Due.is("6: full(MIN)", x.full(Integer.MIN_VALUE), 0);
         Due.is("6: full(257), m is no set", x.full(257), 0);
+        Due.is("6: full(1) of good 0", with(1).full(1), 1);
         Due.is("6: full(1) of all goods", with(255).full(1), 1);
         Due.is("6: full(1) with good 7 apart", with(127, 255).full(1), 2);
         Due.is("6: full(1) of an empty basket", with(0).full(1), 0);
@@ -155,6 +156,7 @@ public final class PromisesTest {
         Due.is("7: largest(0)", x.largest(0), 0);
         Due.is("7: largest(MIN)", x.largest(Integer.MIN_VALUE), 0);
         Due.is("7: largest(257), m is no set", x.largest(257), 0);
+        Due.is("7: largest(1) of good 0", with(1).largest(1), 1);
         Due.is("7: largest(1) of all goods", with(255).largest(1), 1);
         Due.is("7: largest(1) with good 7 apart", with(127, 128).largest(1), 2);
         Due.is("7: largest(1) of an empty basket", with(0).largest(1), 0);
@@ -169,6 +171,7 @@ public final class PromisesTest {
         Due.is("8: size(0)", x.size(0), 0);
         Due.is("8: size(-1)", x.size(-1), 0);
         Due.is("8: size(257), m is no set", x.size(257), 0);
+        Due.is("8: size(1) of good 0", with(1).size(1), 1);
         Due.is("8: size(1) of all goods", with(255).size(1), 8);
         Due.is("8: size(1) of good 7", with(128).size(1), 1);
         Due.is("8: size(1) where the set with the most goods is not the greatest number", with(15, 192).size(1), 4);
