@@ -12,6 +12,13 @@ final class Due {
         }
     }
 
+    static void same(String what, String got, String want) {
+        if (!got.equals(want)) {
+            wrong++;
+            System.out.println(what + ": " + got + ", due is " + want);
+        }
+    }
+
     static void holds(String what, boolean so) {
         if (!so) {
             wrong++;

@@ -17,22 +17,6 @@ public final class PromisesTest {
         Due.end();
     }
 
-    private static ItemSets with(int... baskets) {
-        ItemSets x = new ItemSets();
-        for (int basket : baskets) {
-            x.add(basket);
-        }
-        return x;
-    }
-
-    private static ItemSets fortyOf(int basket) {
-        ItemSets x = new ItemSets();
-        for (int i = 1; i <= 40; i++) {
-            Due.is("add number " + i, x.add(basket), i);
-        }
-        return x;
-    }
-
     private static void newObject() {
         ItemSets x = new ItemSets();
         Due.is("1: support(0)", x.support(0), 0);
@@ -49,7 +33,7 @@ public final class PromisesTest {
     }
 
     private static void add() {
-        ItemSets x = fortyOf(1);
+        ItemSets x = Made.of(40, 1);
         Due.is("2: add(2) when 40 are held", x.add(2), -1);
         Due.is("2: support(2) after it", x.support(2), 0);
         Due.is("2: support(0) after it", x.support(0), 40);
@@ -70,7 +54,7 @@ public final class PromisesTest {
     }
 
     private static void drop() {
-        ItemSets x = with(1, 2, 4, 8);
+        ItemSets x = Made.with(1, 2, 4, 8);
         Due.is("3: drop(4)", x.drop(4), -1);
         Due.is("3: drop(-1)", x.drop(-1), -1);
         Due.is("3: drop(256)", x.drop(256), -1);
@@ -92,7 +76,7 @@ public final class PromisesTest {
         Due.is("3: drop(0), the last", x.drop(0), 0);
         Due.is("3: drop(0) of none", x.drop(0), -1);
 
-        ItemSets forty = fortyOf(1);
+        ItemSets forty = Made.of(40, 1);
         forty.drop(39);
         forty.add(2);
         Due.is("3: drop(40) of forty", forty.drop(40), -1);
@@ -102,7 +86,7 @@ public final class PromisesTest {
     }
 
     private static void support() {
-        ItemSets x = with(7, 3, 5, 0);
+        ItemSets x = Made.with(7, 3, 5, 0);
         Due.is("4: support(0)", x.support(0), 4);
         Due.is("4: support(1)", x.support(1), 3);
         Due.is("4: support(2)", x.support(2), 2);
@@ -117,7 +101,7 @@ public final class PromisesTest {
     }
 
     private static void often() {
-        ItemSets x = with(3, 3, 6);
+        ItemSets x = Made.with(3, 3, 6);
         Due.is("5: often(1)", x.often(1), 5);
         Due.is("5: often(2)", x.often(2), 3);
         Due.is("5: often(3)", x.often(3), 1);
@@ -127,13 +111,13 @@ public final class PromisesTest {
         Due.is("5: often(257), m is no set", x.often(257), 0);
         Due.is("5: often(MIN)", x.often(Integer.MIN_VALUE), 0);
         Due.is("5: often(MAX)", x.often(Integer.MAX_VALUE), 0);
-        Due.is("5: often(1) of empty baskets", with(0, 0).often(1), 0);
-        Due.is("5: often(40) of forty", fortyOf(255).often(40), 255);
-        Due.is("5: often(41) of forty", fortyOf(255).often(41), 0);
+        Due.is("5: often(1) of empty baskets", Made.with(0, 0).often(1), 0);
+        Due.is("5: often(40) of forty", Made.of(40, 255).often(40), 255);
+        Due.is("5: often(41) of forty", Made.of(40, 255).often(41), 0);
     }
 
     private static void full() {
-        ItemSets x = with(3, 3, 6);
+        ItemSets x = Made.with(3, 3, 6);
         Due.is("6: full(1)", x.full(1), 3);
         Due.is("6: full(2)", x.full(2), 2);
         Due.is("6: full(3)", x.full(3), 1);
@@ -141,14 +125,14 @@ public final class PromisesTest {
         Due.is("6: full(0)", x.full(0), 0);
         Due.is("6: full(MIN)", x.full(Integer.MIN_VALUE), 0);
         Due.is("6: full(257), m is no set", x.full(257), 0);
-        Due.is("6: full(1) of good 0", with(1).full(1), 1);
-        Due.is("6: full(1) of all goods", with(255).full(1), 1);
-        Due.is("6: full(1) with good 7 apart", with(127, 255).full(1), 2);
-        Due.is("6: full(1) of an empty basket", with(0).full(1), 0);
+        Due.is("6: full(1) of good 0", Made.with(1).full(1), 1);
+        Due.is("6: full(1) of all goods", Made.with(255).full(1), 1);
+        Due.is("6: full(1) with good 7 apart", Made.with(127, 255).full(1), 2);
+        Due.is("6: full(1) of an empty basket", Made.with(0).full(1), 0);
     }
 
     private static void largest() {
-        ItemSets x = with(3, 3, 6);
+        ItemSets x = Made.with(3, 3, 6);
         Due.is("7: largest(1)", x.largest(1), 2);
         Due.is("7: largest(2)", x.largest(2), 1);
         Due.is("7: largest(3)", x.largest(3), 1);
@@ -156,14 +140,14 @@ public final class PromisesTest {
         Due.is("7: largest(0)", x.largest(0), 0);
         Due.is("7: largest(MIN)", x.largest(Integer.MIN_VALUE), 0);
         Due.is("7: largest(257), m is no set", x.largest(257), 0);
-        Due.is("7: largest(1) of good 0", with(1).largest(1), 1);
-        Due.is("7: largest(1) of all goods", with(255).largest(1), 1);
-        Due.is("7: largest(1) with good 7 apart", with(127, 128).largest(1), 2);
-        Due.is("7: largest(1) of an empty basket", with(0).largest(1), 0);
+        Due.is("7: largest(1) of good 0", Made.with(1).largest(1), 1);
+        Due.is("7: largest(1) of all goods", Made.with(255).largest(1), 1);
+        Due.is("7: largest(1) with good 7 apart", Made.with(127, 128).largest(1), 2);
+        Due.is("7: largest(1) of an empty basket", Made.with(0).largest(1), 0);
     }
 
     private static void size() {
-        ItemSets x = with(3, 3, 6, 240);
+        ItemSets x = Made.with(3, 3, 6, 240);
         Due.is("8: size(1)", x.size(1), 4);
         Due.is("8: size(2)", x.size(2), 2);
         Due.is("8: size(3)", x.size(3), 1);
@@ -171,14 +155,14 @@ public final class PromisesTest {
         Due.is("8: size(0)", x.size(0), 0);
         Due.is("8: size(-1)", x.size(-1), 0);
         Due.is("8: size(257), m is no set", x.size(257), 0);
-        Due.is("8: size(1) of good 0", with(1).size(1), 1);
-        Due.is("8: size(1) of all goods", with(255).size(1), 8);
-        Due.is("8: size(1) of good 7", with(128).size(1), 1);
-        Due.is("8: size(1) where the set with the most goods is not the greatest number", with(15, 192).size(1), 4);
+        Due.is("8: size(1) of good 0", Made.with(1).size(1), 1);
+        Due.is("8: size(1) of all goods", Made.with(255).size(1), 8);
+        Due.is("8: size(1) of good 7", Made.with(128).size(1), 1);
+        Due.is("8: size(1) where the set with the most goods is not the greatest number", Made.with(15, 192).size(1), 4);
     }
 
     private static void next() {
-        ItemSets x = with(6, 6, 128);
+        ItemSets x = Made.with(6, 6, 128);
         Due.is("9: next(1, 0)", x.next(1, 0), 2);
         Due.is("9: next(1, 2)", x.next(1, 2), 2);
         Due.is("9: next(1, 3)", x.next(1, 3), 4);
@@ -194,12 +178,12 @@ public final class PromisesTest {
         Due.is("9: next(0, 0)", x.next(0, 0), -1);
         Due.is("9: next(MIN, 0)", x.next(Integer.MIN_VALUE, 0), -1);
         Due.is("9: next(257, 0), m is no set", x.next(257, 0), -1);
-        Due.is("9: next(1, 255) of all goods", with(255).next(1, 255), 255);
-        Due.is("9: next(1, 0) of empty baskets", with(0, 0).next(1, 0), -1);
+        Due.is("9: next(1, 255) of all goods", Made.with(255).next(1, 255), 255);
+        Due.is("9: next(1, 0) of empty baskets", Made.with(0, 0).next(1, 0), -1);
     }
 
     private static void closure() {
-        ItemSets x = with(7, 3, 14);
+        ItemSets x = Made.with(7, 3, 14);
         Due.is("10: closure(0)", x.closure(0), 2);
         Due.is("10: closure(1)", x.closure(1), 3);
         Due.is("10: closure(2)", x.closure(2), 2);
@@ -212,8 +196,8 @@ public final class PromisesTest {
         Due.is("10: closure(-252)", x.closure(-252), 6);
         Due.is("10: closure(256)", x.closure(256), 2);
         Due.is("10: closure(-1)", x.closure(-1), 255);
-        Due.is("10: closure(0) with an empty basket", with(7, 0).closure(0), 0);
-        Due.is("10: closure(0) of one basket", with(96).closure(0), 96);
+        Due.is("10: closure(0) with an empty basket", Made.with(7, 0).closure(0), 0);
+        Due.is("10: closure(0) of one basket", Made.with(96).closure(0), 96);
         x.drop(0);
         Due.is("10: closure(4) after drop(0)", x.closure(4), 14);
         Due.is("10: closure(5) after drop(0)", x.closure(5), 255);
@@ -221,7 +205,7 @@ public final class PromisesTest {
 
     private static void rules() {
         // Supports: {0} 3, {1} 3, {0, 1} 2. Both pairs reach 200 of 300.
-        ItemSets x = with(3, 3, 1, 2);
+        ItemSets x = Made.with(3, 3, 1, 2);
         Due.is("11: rules(1, 66)", x.rules(1, 66), 2);
         Due.is("11: rules(1, 67)", x.rules(1, 67), 0);
         Due.is("11: rules(2, 66)", x.rules(2, 66), 2);
@@ -231,20 +215,20 @@ public final class PromisesTest {
         Due.is("11: rules(257, 0), m is no set", x.rules(257, 0), 0);
 
         // Supports: {0} 1, {1} 2, {0, 1} 1. Only the order tells the pairs apart.
-        ItemSets lopsided = with(3, 2);
+        ItemSets lopsided = Made.with(3, 2);
         Due.is("11: lopsided rules(1, 50)", lopsided.rules(1, 50), 2);
         Due.is("11: lopsided rules(1, 51)", lopsided.rules(1, 51), 1);
         Due.is("11: lopsided rules(1, 100)", lopsided.rules(1, 100), 1);
         Due.is("11: lopsided rules(1, 101)", lopsided.rules(1, 101), 0);
 
-        Due.is("11: rules(1, 100) of three goods", with(7).rules(1, 100), 12);
-        Due.is("11: rules(1, 0) of all goods", with(255).rules(1, 0), 6050);
-        Due.is("11: rules(1, 0) of one good", with(128).rules(1, 0), 0);
-        Due.is("11: rules(1, 0) of an empty basket", with(0).rules(1, 0), 0);
+        Due.is("11: rules(1, 100) of three goods", Made.with(7).rules(1, 100), 12);
+        Due.is("11: rules(1, 0) of all goods", Made.with(255).rules(1, 0), 6050);
+        Due.is("11: rules(1, 0) of one good", Made.with(128).rules(1, 0), 0);
+        Due.is("11: rules(1, 0) of an empty basket", Made.with(0).rules(1, 0), 0);
     }
 
     private static void percentLimits() {
-        ItemSets x = fortyOf(3);
+        ItemSets x = Made.of(40, 3);
         Due.is("12: rules(40, 100)", x.rules(40, 100), 2);
         Due.is("12: rules(40, 101)", x.rules(40, 101), 0);
         Due.is("12: rules(1, -1)", x.rules(1, -1), 2);
