@@ -1,28 +1,31 @@
 /** Counts the answers that are not the ones due, and ends a test with exit code 1 if there was one. */
 final class Due {
     private static int wrong = 0;
+    private static String sentence = "";
 
     private Due() {
     }
 
+    /** The sentence of the document that the next answers follow from; it is told with each wrong one. */
+    static void says(String quoted) {
+        sentence = "[" + quoted + "] ";
+    }
+
     static void is(String call, long got, long want) {
         if (got != want) {
-            wrong++;
-            System.out.println(call + " answered " + got + ", due is " + want);
+            tell(call + " answered " + got + ", due is " + want);
         }
     }
 
     static void same(String what, String got, String want) {
         if (!got.equals(want)) {
-            wrong++;
-            System.out.println(what + ": " + got + ", due is " + want);
+            tell(what + ": " + got + ", due is " + want);
         }
     }
 
     static void holds(String what, boolean so) {
         if (!so) {
-            wrong++;
-            System.out.println("does not hold: " + what);
+            tell("does not hold: " + what);
         }
     }
 
@@ -31,5 +34,10 @@ final class Due {
             System.out.println(wrong + " answers are not as due");
             System.exit(1);
         }
+    }
+
+    private static void tell(String what) {
+        wrong++;
+        System.out.println(sentence + what);
     }
 }
