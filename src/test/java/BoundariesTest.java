@@ -8,86 +8,96 @@ public final class BoundariesTest {
     private static final int[] BELOW_ONE = {0, -1, -2, -40, -255, -256, MIN + 1, MIN};
 
     public static void main(String[] args) {
-        whatItIs();
-        terms();
-        newObject();
-        add();
-        drop();
-        support();
-        often();
-        full();
-        largest();
-        size();
-        next();
-        closure();
-        rules();
-        percentLimits();
+        Due.each(
+            BoundariesTest::whatItIs,
+            BoundariesTest::terms,
+            BoundariesTest::newObject,
+            BoundariesTest::add,
+            BoundariesTest::drop,
+            BoundariesTest::support,
+            BoundariesTest::often,
+            BoundariesTest::full,
+            BoundariesTest::largest,
+            BoundariesTest::size,
+            BoundariesTest::next,
+            BoundariesTest::closure,
+            BoundariesTest::rules,
+            BoundariesTest::percentLimits);
         Due.end();
     }
 
     private static void whatItIs() {
-        usedFor512Calls();
-        used512TimesToAskAlone();
+        Due.each(
+            BoundariesTest::usedFor512Calls,
+            BoundariesTest::used512TimesToAskAlone);
     }
 
     private static void terms() {
-        goodsAreZeroToSeven();
-        setsAreZeroTo255();
-        lowestBitsOfABasket();
-        lowestBitsOfASupportedSet();
-        lowestBitsOfAClosedSet();
-        atMostFortyAreHeld();
-        numberedFromZeroInOrder();
-        basketsWithAllGoods();
-        emptySetIsInAllBaskets();
-        emptySetIsNeverOften();
-        oftenAtExactlyM();
-        fullAgainstEveryLargerSet();
-        largestAgainstEveryLargerSet();
+        Due.each(
+            BoundariesTest::goodsAreZeroToSeven,
+            BoundariesTest::setsAreZeroTo255,
+            BoundariesTest::lowestBitsOfABasket,
+            BoundariesTest::lowestBitsOfASupportedSet,
+            BoundariesTest::lowestBitsOfAClosedSet,
+            BoundariesTest::atMostFortyAreHeld,
+            BoundariesTest::numberedFromZeroInOrder,
+            BoundariesTest::basketsWithAllGoods,
+            BoundariesTest::emptySetIsInAllBaskets,
+            BoundariesTest::emptySetIsNeverOften,
+            BoundariesTest::oftenAtExactlyM,
+            BoundariesTest::fullAgainstEveryLargerSet,
+            BoundariesTest::largestAgainstEveryLargerSet);
     }
 
     private static void add() {
-        addAnswersHowMany();
-        addToFortyAnswersMinusOne();
-        addToFortyChangesNothing();
+        Due.each(
+            BoundariesTest::addAnswersHowMany,
+            BoundariesTest::addToFortyAnswersMinusOne,
+            BoundariesTest::addToFortyChangesNothing);
     }
 
     private static void drop() {
-        dropMovesTheOnesBehind();
-        dropAnswersHowMany();
-        dropOfNone();
-        dropOfNoneChangesNothing();
+        Due.each(
+            BoundariesTest::dropMovesTheOnesBehind,
+            BoundariesTest::dropAnswersHowMany,
+            BoundariesTest::dropOfNone,
+            BoundariesTest::dropOfNoneChangesNothing);
     }
 
     private static void size() {
-        sizeWhereNoneIsOften();
-        sizeBelowOne();
-        sizeAtItsGreatest();
+        Due.each(
+            BoundariesTest::sizeWhereNoneIsOften,
+            BoundariesTest::sizeBelowOne,
+            BoundariesTest::sizeAtItsGreatest);
     }
 
     private static void next() {
-        nextIsAtLeastFrom();
-        nextFromBelowAndAboveAllSets();
-        nextWhereNoneIsOften();
-        nextBelowOne();
+        Due.each(
+            BoundariesTest::nextIsAtLeastFrom,
+            BoundariesTest::nextFromBelowAndAboveAllSets,
+            BoundariesTest::nextWhereNoneIsOften,
+            BoundariesTest::nextBelowOne);
     }
 
     private static void closure() {
-        closureWhereBasketsHaveTheSet();
-        closureWhereNoBasketHasTheSet();
+        Due.each(
+            BoundariesTest::closureWhereBasketsHaveTheSet,
+            BoundariesTest::closureWhereNoBasketHasTheSet);
     }
 
     private static void rules() {
-        rulesOfSetsThatAreNotEmpty();
-        rulesWithoutCommonGoods();
-        rulesOfSetsOftenAtExactlyM();
-        rulesAtExactlyPercent();
-        rulesBelowOne();
+        Due.each(
+            BoundariesTest::rulesOfSetsThatAreNotEmpty,
+            BoundariesTest::rulesWithoutCommonGoods,
+            BoundariesTest::rulesOfSetsOftenAtExactlyM,
+            BoundariesTest::rulesAtExactlyPercent,
+            BoundariesTest::rulesBelowOne);
     }
 
     private static void percentLimits() {
-        percentMayBeAnyInt();
-        productsDoNotWrap();
+        Due.each(
+            BoundariesTest::percentMayBeAnyInt,
+            BoundariesTest::productsDoNotWrap);
     }
 
     // What it is

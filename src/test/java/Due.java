@@ -11,6 +11,17 @@ final class Due {
         sentence = "[" + quoted + "] ";
     }
 
+    /** Runs each test; one that throws is told, and the ones behind it run all the same. */
+    static void each(Runnable... tests) {
+        for (Runnable test : tests) {
+            try {
+                test.run();
+            } catch (RuntimeException thrown) {
+                tell("a call threw " + thrown);
+            }
+        }
+    }
+
     static void is(String call, long got, long want) {
         if (got != want) {
             tell(call + " answered " + got + ", due is " + want);

@@ -2,24 +2,25 @@
 public final class SentencesTest {
 
     public static void main(String[] args) {
-        termGoods();
-        termSet();
-        termBaskets();
-        termSupport();
-        termOften();
-        termFullAndLargest();
-        newObject();
-        add();
-        drop();
-        support();
-        often();
-        full();
-        largest();
-        size();
-        next();
-        closure();
-        rules();
-        percentLimits();
+        Due.each(
+            SentencesTest::termGoods,
+            SentencesTest::termSet,
+            SentencesTest::termBaskets,
+            SentencesTest::termSupport,
+            SentencesTest::termOften,
+            SentencesTest::termFullAndLargest,
+            SentencesTest::newObject,
+            SentencesTest::add,
+            SentencesTest::drop,
+            SentencesTest::support,
+            SentencesTest::often,
+            SentencesTest::full,
+            SentencesTest::largest,
+            SentencesTest::size,
+            SentencesTest::next,
+            SentencesTest::closure,
+            SentencesTest::rules,
+            SentencesTest::percentLimits);
         Due.end();
     }
 
@@ -125,6 +126,7 @@ public final class SentencesTest {
         Due.is("rules(1, 0)", x.rules(1, 0), 0);
         x.add(255);
         Due.is("another object's support(0)", new ItemSets().support(0), 0);
+        Due.is("the first object's support(0) then", x.support(0), 1);
     }
 
     private static void add() {
@@ -346,6 +348,10 @@ public final class SentencesTest {
         Due.is("rules(1, -1)", x.rules(1, -1), 2);
         Due.is("rules(1, MIN)", x.rules(1, Integer.MIN_VALUE), 2);
         Due.is("rules(1, MAX)", x.rules(1, Integer.MAX_VALUE), 0);
+        ItemSets lopsided = Made.with(3, 1);
+        Due.is("lopsided rules(1, 100)", lopsided.rules(1, 100), 1);
+        Due.is("lopsided rules(1, -1)", lopsided.rules(1, -1), 2);
+        Due.is("lopsided rules(1, MIN)", lopsided.rules(1, Integer.MIN_VALUE), 2);
         // 40 times each of these wraps to 0 or to a number of the other sign in an int.
         Due.is("rules(1, 2^29)", x.rules(1, 1 << 29), 0);
         Due.is("rules(1, -2^29)", x.rules(1, -(1 << 29)), 2);
