@@ -59,6 +59,8 @@ public final class LanguageTest {
         Due.says("LANGUAGE.md, rule 4");
         Due.is("arrays and objects not made in a field's initialiser",
             count(wordPattern("new"), code) - count(ARRAY_FIELD, code), 0);
+        Pattern anyArrayField = Pattern.compile("^    private [\\w ]+\\[\\] \\w+( =.*)?;", Pattern.MULTILINE);
+        Due.is("array fields without such an initialiser", count(anyArrayField, code) - count(ARRAY_FIELD, code), 0);
     }
 
     private static void findMethods(String code) {

@@ -16,7 +16,7 @@ import java.util.stream.Stream;
 /** Makes every call that README.md shows; its answer must be the number behind it. Run from the project's directory. */
 public final class ReadmeTest {
 
-    private static final Pattern BLOCK = Pattern.compile("```java\n(.*?)```", Pattern.DOTALL);
+    private static final Pattern BLOCK = Pattern.compile("```\\w*\n(.*?)```", Pattern.DOTALL);
     private static final Pattern MAKING = Pattern.compile("ItemSets (\\w+) = new ItemSets\\(\\);");
     private static final Pattern CALL = Pattern.compile("(\\w+)\\.(\\w+)\\(([-0-9, ]+)\\); *// (-?[0-9]+)(: .*)?");
     private static final Pattern TEST = Pattern.compile("^- `(\\w+Test)`", Pattern.MULTILINE);
@@ -59,7 +59,7 @@ public final class ReadmeTest {
 
     private static void playCall(ItemSets object, Matcher call) throws ReflectiveOperationException {
         List<Object> numbers = new ArrayList<>();
-        for (String number : call.group(3).split(", ")) {
+        for (String number : call.group(3).split(", *")) {
             numbers.add(Integer.valueOf(number));
         }
         Method method = METHODS.get(call.group(2));
